@@ -1,4 +1,5 @@
 import java.util.ArrayList;
+import java.util.Arrays;
 import java.util.List;
 import java.util.Random;
 import java.util.Set;
@@ -595,12 +596,69 @@ public final class ModelTests {
         }
 
         int count(int what) {
-            switch (what) {
-                case 0: return classes.size();
-                case 1: return members.size();
-                case 2: return references.size();
-                default: return -1;
+            int[] counts = {classes.size(), members.size(), references.size()};
+            return out(what, 0, 2) ? -1 : counts[what];
+        }
+    }
+
+    /** A call by its name and arguments (a boolean is 1 or 0). */
+    private static final class Call {
+        final String name;
+        final int[] with;
+
+        Call(String name, int[] with) {
+            this.name = name;
+            this.with = with;
+        }
+
+        boolean builds() {
+            return List.of("provide", "mask", "define", "field", "method", "reference").contains(name);
+        }
+
+        int on(LinkAudit x) {
+            switch (name) {
+                case "provide": return x.provide(with[0], with[1]);
+                case "mask": return x.mask(with[0], with[1], with[2] == 1);
+                case "define": return x.define(with[0], with[1], with[2], with[3], with[4]);
+                case "field": return x.field(with[0], with[1], with[2], with[3]);
+                case "method": return x.method(with[0], with[1], with[2], with[3], with[4]);
+                case "reference": return x.reference(with[0], with[1], with[2], with[3], with[4]);
+                case "find": return x.find(with[0], with[1]);
+                case "load": return x.load(with[0]);
+                case "verdict": return x.verdict(with[0]);
+                case "select": return x.select(with[0], with[1]);
+                case "overrides": return x.overrides(with[0], with[1]) ? 1 : 0;
+                case "gaps": return x.gaps();
+                case "conflicts": return x.conflicts();
+                case "conflict": return x.conflict(with[0], with[1]);
+                case "faults": return x.faults();
+                default: return x.count(with[0]);
             }
+        }
+
+        int on(Model x) {
+            switch (name) {
+                case "provide": return x.provide(with[0], with[1]);
+                case "mask": return x.mask(with[0], with[1], with[2] == 1);
+                case "define": return x.define(with[0], with[1], with[2], with[3], with[4]);
+                case "field": return x.field(with[0], with[1], with[2], with[3]);
+                case "method": return x.method(with[0], with[1], with[2], with[3], with[4]);
+                case "reference": return x.reference(with[0], with[1], with[2], with[3], with[4]);
+                case "find": return x.find(with[0], with[1]);
+                case "load": return x.load(with[0]);
+                case "verdict": return x.verdict(with[0]);
+                case "select": return x.select(with[0], with[1]);
+                case "overrides": return x.overrides(with[0], with[1]) ? 1 : 0;
+                case "gaps": return x.gaps();
+                case "conflicts": return x.conflictRows().size();
+                case "conflict": return x.conflict(with[0], with[1]);
+                case "faults": return x.faults();
+                default: return x.count(with[0]);
+            }
+        }
+
+        String text() {
+            return name + Arrays.toString(with);
         }
     }
 
@@ -608,22 +666,19 @@ public final class ModelTests {
     private static final class Run {
         final int seed;
         final Random random;
-        final LinkAudit program = new LinkAudit();
         final Model model = new Model();
+        final List<Call> built = new ArrayList<>();
         final int loaders;
         final int types;
         final StringBuilder story = new StringBuilder();
-        int calls = 0;
+        LinkAudit program = new LinkAudit();
+        int callsOfProgram = 0;
 
         Run(int seed) {
             this.seed = seed;
             random = new Random(seed);
             loaders = 1 + random.nextInt(5);
             types = 1 + random.nextInt(3);
-        }
-
-        int upTo(int most) {
-            return random.nextInt(most + 1);
         }
 
         boolean rarely(int times) {
@@ -662,16 +717,9 @@ public final class ModelTests {
             } else if (what < 15) {
                 reference();
             } else if (what < 17) {
-                int loader = wild(1, 4);
-                int other = wild(0, 4);
-                due("provide(" + loader + ", " + other + ")", program.provide(loader, other),
-                    model.provide(loader, other));
+                call("provide", wild(1, 4), wild(0, 4));
             } else if (what < 18) {
-                int loader = wild(1, 4);
-                int name = wild(0, 11);
-                boolean on = random.nextBoolean();
-                due("mask(" + loader + ", " + name + ", " + on + ")", program.mask(loader, name, on),
-                    model.mask(loader, name, on));
+                call("mask", wild(1, 4), wild(0, 11), random.nextInt(2));
             }
         }
 
@@ -699,138 +747,127 @@ public final class ModelTests {
                 int chosen = definedName(true, 12);
                 interfaces |= chosen == 12 ? 0 : 1 << chosen;
             }
-            if (rarely(25)) {
-                interfaces = wild(0, 4095);
-            }
-            due("define(" + loader + ", " + name + ", " + flags + ", " + superName + ", " + interfaces + ")",
-                program.define(loader, name, flags, superName, interfaces),
-                model.define(loader, name, flags, superName, interfaces));
-        }
-
-        int memberName() {
-            return rarely(3) ? wild(0, 3) : 0;
+            call("define", loader, name, flags, superName, rarely(25) ? wild(0, 4095) : interfaces);
         }
 
         void member() {
             int owner = wild(1, Math.max(1, model.classes.size()));
-            int name = memberName();
+            int name = rarely(3) ? wild(0, 3) : 0;
             int first = rarely(30) ? wild(0, 12) : type();
             if (rarely(4)) {
-                int flags = wild(0, 7);
-                due("field(" + owner + ", " + name + ", " + first + ", " + flags + ")",
-                    program.field(owner, name, first, flags), model.field(owner, name, first, flags));
+                call("field", owner, name, first, wild(0, 7));
                 return;
             }
             int second = rarely(30) ? wild(0, 12) : 12;
             int flags = rarely(4) ? wild(0, 15) : random.nextInt(3) + (rarely(4) ? 8 : 0);
-            if (!rarely(8) && owner >= 1 && owner <= model.classes.size() && model.classes.get(owner - 1).isInterface) {
+            boolean known = owner >= 1 && owner <= model.classes.size();
+            if (known && model.classes.get(owner - 1).isInterface && !rarely(8)) {
                 flags = rarely(6) ? 3 : rarely(8) ? 4 : rarely(2) ? 8 : 0;
             }
-            due("method(" + owner + ", " + name + ", " + first + ", " + second + ", " + flags + ")",
-                program.method(owner, name, first, second, flags), model.method(owner, name, first, second, flags));
+            call("method", owner, name, first, second, flags);
         }
 
         void reference() {
             int from = wild(1, Math.max(1, model.classes.size()));
-            int kind = rarely(2) ? wild(0, 23) : 12;
-            int className = wild(0, 11);
-            int first = type();
-            int second = rarely(4) ? wild(0, 12) : 12;
-            if (!model.members.isEmpty() && !rarely(4)) {
-                ModelMember aim = model.members.get(random.nextInt(model.members.size()));
-                className = rarely(2) ? aim.owner.name : definedName(aim.owner.isInterface, aim.owner.name);
-                int sort = aim.isMethod ? aim.isStatic ? 4 : aim.owner.isInterface ? 5 : 3 : aim.isStatic ? 2 : 1;
-                kind = sort * 4 + aim.name;
-                first = aim.first;
-                second = aim.second;
+            if (model.members.isEmpty() || rarely(4)) {
+                call("reference", from, wild(0, 23), wild(0, 11), wild(0, 12), wild(0, 12));
+                return;
             }
-            due("reference(" + from + ", " + kind + ", " + className + ", " + first + ", " + second + ")",
-                program.reference(from, kind, className, first, second),
-                model.reference(from, kind, className, first, second));
+            ModelMember aim = model.members.get(random.nextInt(model.members.size()));
+            int className = rarely(2) ? aim.owner.name : definedName(aim.owner.isInterface, aim.owner.name);
+            int kind = aim.isStatic ? LinkAudit.FIELD_STATIC : LinkAudit.FIELD;
+            if (aim.isMethod) {
+                int dynamic = aim.owner.isInterface ? LinkAudit.CALL_INTERFACE : LinkAudit.CALL;
+                kind = aim.isStatic ? LinkAudit.CALL_STATIC : dynamic;
+            }
+            int mixed = rarely(6) ? 1 + random.nextInt(5) : kind;
+            call("reference", from, mixed * 4 + aim.name, className, aim.first, aim.second);
         }
 
         void ask() {
             int number = wild(1, Math.max(1, model.classes.size()));
             int member = wild(1, Math.max(1, model.members.size()));
             int other = wild(1, Math.max(1, model.members.size()));
-            int reference = wild(0, Math.max(0, model.references.size() - 1));
-            int loader = wild(0, 4);
-            int name = wild(0, 11);
-            int what = wild(0, 2);
             switch (random.nextInt(10)) {
-                case 0: due("find(" + loader + ", " + name + ")", program.find(loader, name), model.find(loader, name)); break;
-                case 1: due("load(" + number + ")", program.load(number), model.load(number)); break;
-                case 2: due("verdict(" + reference + ")", program.verdict(reference), model.verdict(reference)); break;
-                case 3: due("select(" + number + ", " + member + ")", program.select(number, member), model.select(number, member)); break;
-                case 4: overrides(member, other); break;
-                case 5: due("gaps()", program.gaps(), model.gaps()); break;
-                case 6: due("conflicts()", program.conflicts(), model.conflictRows().size()); break;
-                case 7: due("conflict(0, " + what + ")", program.conflict(0, what), model.conflict(0, what)); break;
-                case 8: due("faults()", program.faults(), model.faults()); break;
-                default: due("count(" + what + ")", program.count(what), model.count(what)); break;
+                case 0: call("find", wild(0, 4), wild(0, 11)); break;
+                case 1: call("load", number); break;
+                case 2: call("verdict", wild(0, Math.max(0, model.references.size() - 1))); break;
+                case 3: call("select", number, member); break;
+                case 4: call("overrides", member, other); break;
+                case 5: call("gaps"); break;
+                case 6: call("conflicts"); break;
+                case 7: call("conflict", 0, wild(0, 2)); break;
+                case 8: call("faults"); break;
+                default: call("count", wild(0, 2)); break;
             }
-        }
-
-        void overrides(int member, int other) {
-            boolean is = model.overrides(member, other);
-            overridesSeen += is ? 1 : 0;
-            due("overrides(" + member + ", " + other + ")", program.overrides(member, other) ? 1 : 0, is ? 1 : 0);
         }
 
         void askAll() {
-            for (int i = 0; i <= model.classes.size() + 1; i++) {
-                due("load(" + i + ")", program.load(i), model.load(i));
-            }
-            for (int i = -1; i <= model.references.size(); i++) {
-                due("verdict(" + i + ")", program.verdict(i), model.verdict(i));
-            }
-            for (int i = 1; i <= model.classes.size(); i++) {
-                for (int m = 0; m <= model.members.size() + 1; m++) {
-                    due("select(" + i + ", " + m + ")", program.select(i, m), model.select(i, m));
+            for (int number = 0; number <= model.classes.size() + 1; number++) {
+                call("load", number);
+                for (int member = 0; member <= model.members.size() + 1; member++) {
+                    call("select", number, member);
                 }
             }
-            for (int m = 0; m <= model.members.size() + 1; m++) {
+            for (int reference = -1; reference <= model.references.size(); reference++) {
+                call("verdict", reference);
+            }
+            for (int method = 0; method <= model.members.size() + 1; method++) {
                 for (int other = 0; other <= model.members.size() + 1; other++) {
-                    overrides(m, other);
+                    overridesSeen += call("overrides", method, other);
                 }
             }
             for (int loader = -1; loader <= 5; loader++) {
                 for (int name = -1; name <= 12; name++) {
-                    due("find(" + loader + ", " + name + ")", program.find(loader, name), model.find(loader, name));
+                    call("find", loader, name);
                 }
             }
-            int gaps = model.gaps();
-            int conflicts = model.conflictRows().size();
-            gapsSeen += gaps;
+            gapsSeen += call("gaps");
+            int conflicts = call("conflicts");
             conflictsSeen += conflicts;
-            due("gaps()", program.gaps(), gaps);
-            due("conflicts()", program.conflicts(), conflicts);
             for (int k = -1; k <= conflicts; k++) {
                 for (int what = -1; what <= 3; what++) {
-                    due("conflict(" + k + ", " + what + ")", program.conflict(k, what), model.conflict(k, what));
+                    call("conflict", k, what);
                 }
             }
-            due("faults()", program.faults(), model.faults());
+            call("faults");
             for (int what = -1; what <= 3; what++) {
-                due("count(" + what + ")", program.count(what), model.count(what));
+                call("count", what);
             }
         }
 
-        void due(String call, int got, int want) {
-            calls++;
-            if (calls <= 600) {
-                story.append("  ").append(call).append(" = ").append(want).append('\n');
+        /** An object is good for 512 calls: then another one, built alike, goes on. */
+        void renewProgram() {
+            callsOfProgram++;
+            if (callsOfProgram > 512) {
+                program = new LinkAudit();
+                for (Call step : built) {
+                    step.on(program);
+                }
+                callsOfProgram = built.size() + 1;
             }
-            if (want < 0 && want >= -10) {
+        }
+
+        int call(String name, int... with) {
+            Call call = new Call(name, with);
+            renewProgram();
+            int want = call.on(model);
+            int got = call.on(program);
+            if (call.builds()) {
+                built.add(call);
+                story.append("  ").append(call.text()).append(" = ").append(want).append('\n');
+            }
+            if (want < 0) {
                 seen[-want]++;
             }
             if (got != want) {
                 wrong++;
-                System.out.println("seed " + seed + ": " + call + " answered " + got + ", due is " + want);
+                System.out.println("seed " + seed + ": " + call.text() + " answered " + got + ", due is " + want);
                 if (wrong == 1) {
                     System.out.print(story);
                 }
             }
+            return want;
         }
     }
 }
