@@ -801,7 +801,6 @@ public final class LinkAudit {
 
         /** Superclasses come first in the order, so that what their methods cover is known in time. */
         void renew() {
-            Arrays.fill(coveredAbove, 0L);
             for (int i = 0; i < links.loadableCount; i++) {
                 int number = links.order[i];
                 for (int m = 1; m <= members.size; m++) {

@@ -670,6 +670,8 @@ public final class ModelTests {
         final List<Call> built = new ArrayList<>();
         final int loaders;
         final int types;
+        // Some runs have few interfaces and types, so that long chains of like methods come about.
+        final boolean tall;
         final StringBuilder story = new StringBuilder();
         LinkAudit program = new LinkAudit();
         int callsOfProgram = 0;
@@ -677,7 +679,8 @@ public final class ModelTests {
         Run(int seed) {
             this.seed = seed;
             random = new Random(seed);
-            loaders = 1 + random.nextInt(5);
+            tall = rarely(3);
+            loaders = 1 + random.nextInt(tall ? 2 : 5);
             types = 1 + random.nextInt(3);
         }
 
@@ -695,10 +698,28 @@ public final class ModelTests {
         }
 
         int type() {
-            return rarely(3) ? 12 : random.nextInt(types);
+            return rarely(3) || tall && !rarely(10) ? 12 : random.nextInt(types);
+        }
+
+        /** Loaders that ask one another, and have classes of their own for the types of members. */
+        void spread() {
+            for (int loader = 1; loader < loaders; loader++) {
+                for (int i = random.nextInt(4); i > 0; i--) {
+                    call("provide", loader, random.nextInt(loaders));
+                }
+            }
+            for (int i = 2 + random.nextInt(6); i > 0; i--) {
+                int loader = random.nextInt(loaders);
+                int type = random.nextInt(types);
+                call("define", loader, type, 1, 12, 0);
+                call("mask", loader, type, 1);
+            }
         }
 
         void go() {
+            if (rarely(2)) {
+                spread();
+            }
             for (int i = 0; i < 110 && wrong < LONGEST_REPORT; i++) {
                 build();
                 if (rarely(4)) {
@@ -723,14 +744,20 @@ public final class ModelTests {
             }
         }
 
-        int definedName(boolean wantsInterface, int otherwise) {
+        /** Mostly the name of a class that the loader finds and that is of use there. */
+        int foundName(int loader, boolean wantsInterface, int otherwise) {
             List<Integer> names = new ArrayList<>();
-            for (ModelClass each : model.classes) {
-                if (each.isInterface == wantsInterface && (rarely(4) || !each.isFinal)) {
-                    names.add(each.name);
+            for (int name = 0; name < 12; name++) {
+                ModelClass each = model.find(loader, name) > 0 ? model.found(loader, name) : null;
+                if (each != null && each.isInterface == wantsInterface && (rarely(6) || isOfUse(each, loader))) {
+                    names.add(name);
                 }
             }
             return names.isEmpty() || rarely(25) ? otherwise : names.get(random.nextInt(names.size()));
+        }
+
+        boolean isOfUse(ModelClass each, int loader) {
+            return !each.isFinal && (each.isPublic || each.loader == loader) && model.code(each) > 0;
         }
 
         void define() {
@@ -740,11 +767,14 @@ public final class ModelTests {
             if ((flags & 8) != 0 && !rarely(10)) {
                 flags &= ~2;
             }
-            boolean alone = (flags & 8) != 0 ? !rarely(10) : rarely(4);
-            int superName = alone ? 12 : definedName(false, wild(0, 12));
+            if (tall && !rarely(10)) {
+                flags = 1;
+            }
+            boolean alone = (flags & 8) != 0 ? !rarely(10) : rarely(tall ? 20 : 4);
+            int superName = alone ? 12 : foundName(loader, false, wild(0, 12));
             int interfaces = 0;
             for (int i = random.nextInt(4); i > 0; i--) {
-                int chosen = definedName(true, 12);
+                int chosen = foundName(loader, true, 12);
                 interfaces |= chosen == 12 ? 0 : 1 << chosen;
             }
             call("define", loader, name, flags, superName, rarely(25) ? wild(0, 4095) : interfaces);
@@ -770,11 +800,14 @@ public final class ModelTests {
         void reference() {
             int from = wild(1, Math.max(1, model.classes.size()));
             if (model.members.isEmpty() || rarely(4)) {
-                call("reference", from, wild(0, 23), wild(0, 11), wild(0, 12), wild(0, 12));
+                int kind = rarely(2) ? LinkAudit.NEW : wild(0, 23);
+                call("reference", from, kind, wild(0, 11), wild(0, 12), wild(0, 12));
                 return;
             }
             ModelMember aim = model.members.get(random.nextInt(model.members.size()));
-            int className = rarely(2) ? aim.owner.name : definedName(aim.owner.isInterface, aim.owner.name);
+            boolean known = from >= 1 && from <= model.classes.size();
+            int loader = known ? model.classes.get(from - 1).loader : 0;
+            int className = rarely(2) ? aim.owner.name : foundName(loader, aim.owner.isInterface, aim.owner.name);
             int kind = aim.isStatic ? LinkAudit.FIELD_STATIC : LinkAudit.FIELD;
             if (aim.isMethod) {
                 int dynamic = aim.owner.isInterface ? LinkAudit.CALL_INTERFACE : LinkAudit.CALL;

@@ -21,6 +21,7 @@ public final class PromiseTests {
         referenceNumbersAndRefuses();
         findAsksHostThenProvidersThenItself();
         loadGivesNumberOrFirstCode();
+        loadFollowsProviders();
         loadTellsCircles();
         loadGoesToTheTop();
         verdictOfNew();
@@ -41,6 +42,8 @@ public final class PromiseTests {
         conflictsOfReferences();
         conflictsOfOverriding();
         conflictsInAChain();
+        conflictsWithTheHost();
+        conflictsOfLastMember();
         conflictsInOrder();
         faultsAreSummed();
         countTellsSizes();
@@ -104,6 +107,7 @@ public final class PromiseTests {
         due("2: provide(1, 0)", x.provide(1, 0), 1);
         due("2: provide(1, 4)", x.provide(1, 4), 2);
         due("2: again", x.provide(1, 4), LinkAudit.REFUSED);
+        due("2: the first one again", x.provide(1, 0), LinkAudit.REFUSED);
         due("2: itself", x.provide(1, 1), LinkAudit.REFUSED);
         due("2: provide(1, 2)", x.provide(1, 2), 3);
         due("2: a fourth", x.provide(1, 3), LinkAudit.FULL);
@@ -394,6 +398,22 @@ public final class PromiseTests {
         due("9: and not masked", x.load(6), 6);
     }
 
+    private static void loadFollowsProviders() {
+        LinkAudit x = new LinkAudit();
+        x.define(1, 0, OPEN, 4, 0);
+        x.define(2, 4, OPEN | LinkAudit.IS_FINAL, NONE, 0);
+        x.define(3, 4, OPEN, NONE, 0);
+        due("9: no provider", x.load(1), LinkAudit.NO_CLASS);
+        x.provide(1, 2);
+        due("9: a provider with a final class", x.load(1), LinkAudit.INCOMPATIBLE);
+        x.provide(1, 3);
+        due("9: the first one counts", x.load(1), LinkAudit.INCOMPATIBLE);
+        x.define(0, 4, OPEN, NONE, 0);
+        due("9: the host's", x.load(1), 1);
+        x.method(4, 0, NUMBER, NUMBER, 0);
+        due("11: that is its super", x.select(1, 1), 1);
+    }
+
     private static void loadTellsCircles() {
         LinkAudit x = new LinkAudit();
         x.define(1, 0, OPEN, 1, 0);
@@ -660,6 +680,13 @@ public final class PromiseTests {
         y.method(2, 0, NUMBER, NUMBER, 0);
         y.reference(4, LinkAudit.CALL * 4, 3, NUMBER, NUMBER);
         due("10: two most specific with code: the least number of all", y.verdict(0), 1);
+        LinkAudit z = new LinkAudit();
+        z.define(0, 0, OPEN, NONE, 1 << 1);
+        z.define(0, 1, OPEN_INTERFACE, NONE, 0);
+        z.method(2, 0, NUMBER, NUMBER, 0);
+        z.reference(1, LinkAudit.CALL * 4, 0, NUMBER, NUMBER);
+        due("10: of the interface that was defined last", z.verdict(0), 1);
+        due("11: of the interface that was defined last", z.select(1, 1), 1);
     }
 
     // Promise 11
@@ -847,10 +874,34 @@ public final class PromiseTests {
         z.method(4, 0, NUMBER, NUMBER, LinkAudit.PUBLIC);
         due("12: past one that is not covered", z.overrides(4, 1), true);
         due("12: which stays so", z.overrides(4, 3), false);
+        overridesByWayOfOneOfTwo();
         z.method(2, 1, NUMBER, NUMBER, LinkAudit.PUBLIC | LinkAudit.STATIC);
         z.method(1, 1, NUMBER, NUMBER, LinkAudit.PACKAGE);
         z.method(3, 1, NUMBER, NUMBER, LinkAudit.PUBLIC);
         due("12: no link by a static one", z.overrides(7, 6), false);
+    }
+
+    private static void overridesByWayOfOneOfTwo() {
+        LinkAudit x = new LinkAudit();
+        x.define(0, 0, OPEN, NONE, 0);
+        x.define(0, 4, OPEN, 0, 0);
+        x.define(0, 1, OPEN, 4, 0);
+        x.define(0, 8, OPEN, 1, 0);
+        x.method(1, 0, NUMBER, NUMBER, LinkAudit.PACKAGE);
+        x.method(2, 0, NUMBER, NUMBER, LinkAudit.PUBLIC);
+        x.method(3, 0, NUMBER, NUMBER, LinkAudit.PUBLIC);
+        x.method(4, 0, NUMBER, NUMBER, LinkAudit.PUBLIC);
+        due("12: the farther one between does not cover it", x.overrides(2, 1), false);
+        due("12: the nearer one does", x.overrides(3, 1), true);
+        due("12: so the last does", x.overrides(4, 1), true);
+        due("11: and is selected", x.select(4, 1), 4);
+        LinkAudit y = new LinkAudit();
+        int[] names = {0, 4, 5, 1, 8};
+        for (int i = 0; i < names.length; i++) {
+            y.define(0, names[i], OPEN, i == 0 ? NONE : names[i - 1], 0);
+            y.method(i + 1, 0, NUMBER, NUMBER, i < 2 ? LinkAudit.PACKAGE : LinkAudit.PUBLIC);
+        }
+        due("12: two ways above", y.overrides(5, 1) && y.overrides(5, 2), true);
     }
 
     private static void overridesInterfaces() {
@@ -1004,6 +1055,46 @@ public final class PromiseTests {
         due("15: with the host", x.conflict(0, 1), 0);
         due("15: between", x.conflict(1, 2), 2);
         due("15: with the last", x.conflict(2, 2), 3);
+    }
+
+    private static void conflictsWithTheHost() {
+        LinkAudit x = new LinkAudit();
+        x.define(0, 0, OPEN, NONE, 0);
+        x.define(1, 1, OPEN, NONE, 0);
+        x.define(2, 2, OPEN, NONE, 0);
+        x.define(0, 11, OPEN, NONE, 0);
+        x.define(1, 11, OPEN, NONE, 0);
+        x.provide(2, 1);
+        x.mask(1, 11, true);
+        x.method(1, 0, NUMBER, 11, 0);
+        x.method(2, 0, NUMBER, 11, 0);
+        x.reference(3, LinkAudit.CALL * 4, 0, NUMBER, 11);
+        x.reference(3, LinkAudit.CALL * 4, 1, NUMBER, 11);
+        due("15: asked first: name", x.conflict(0, 0), 11);
+        due("15: the host, in a chain", x.conflict(0, 1), 0);
+        due("15: the first plugin", x.conflict(0, 2), 1);
+        due("14: two pairs", x.conflicts(), 2);
+        due("15: the second pair", x.conflict(1, 1), 1);
+        x.mask(2, 1, true);
+        due("14: the chain is cut", x.conflicts(), 0);
+        x.mask(2, 1, false);
+        x.mask(2, 0, true);
+        due("14: cut at the other end", x.conflicts(), 1);
+        due("15: the pair that is left", x.conflict(0, 1), 1);
+    }
+
+    private static void conflictsOfLastMember() {
+        LinkAudit x = new LinkAudit();
+        x.define(0, 4, OPEN, NONE, 0);
+        x.define(1, 5, OPEN, 4, 0);
+        x.define(0, 0, OPEN, NONE, 0);
+        x.define(1, 0, OPEN, NONE, 0);
+        x.mask(1, 0, true);
+        x.method(2, 0, 0, NUMBER, 0);
+        due("14: nothing to override", x.conflicts(), 0);
+        x.method(1, 0, 0, NUMBER, 0);
+        due("14: the overridden one is the last", x.conflicts(), 1);
+        due("15: on the name 0", x.conflict(0, 0), 0);
     }
 
     private static void conflictsInOrder() {
