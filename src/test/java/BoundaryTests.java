@@ -555,6 +555,8 @@ public final class BoundaryTests {
         }
         due("finds its field", verdict(x, 16, LinkAudit.FIELD, 3), 2);
         due("and its method", verdict(x, 16, LinkAudit.CALL, 3), 1);
+        due("but no other field", x.verdict(x.reference(16, LinkAudit.FIELD * 4 + 1, 3, NUMBER, 0)), NO_MEMBER);
+        due("and no other method", x.verdict(x.reference(16, LinkAudit.CALL * 4 + 1, 3, NUMBER, NUMBER)), NO_MEMBER);
         plain(x, 16, 0);
         holds("overrides it", x.overrides(3, 1));
         due("so it is selected", x.select(16, 1), 3);
@@ -1253,6 +1255,17 @@ public final class BoundaryTests {
         x.method(2, 2, NUMBER, NUMBER, PRIVATE);
         x.method(3, 2, NUMBER, NUMBER, STATIC);
         due("PRIVATE and static ones do not count", x.select(5, 7), NO_CODE);
+        LinkAudit y = new LinkAudit();
+        y.define(1, 0, OPEN_INTERFACE, NONE, 0);
+        y.define(1, 1, OPEN_INTERFACE, NONE, 1 << 0);
+        y.define(1, 2, OPEN, NONE, 1 << 1);
+        plain(y, 2, ABSTRACT);
+        plain(y, 1, 0);
+        y.method(2, 1, NUMBER, NUMBER, 0);
+        y.method(1, 1, NUMBER, NUMBER, 0);
+        due("the most specific one was made first, and is abstract", y.select(3, 2), NO_CODE);
+        due("the most specific one was made first, and has code", y.select(3, 4), 3);
+        due("asked for itself", y.select(3, 3), 3);
     }
 
     private static void selectOfAbstract() {
