@@ -49,7 +49,10 @@ public final class RefusalTests {
         referenceTakesItsRanges();
         referenceTakesAnyOfWhatItDoesNotUse();
         referenceIsFullAtTwelve();
-        askingTakesItsRanges();
+        findTakesItsRanges();
+        loadTakesItsRange();
+        verdictTakesItsRange();
+        selectTakesItsRanges();
         conflictTakesItsRanges();
         overridesIsFalseForOtherNumbers();
         countTakesThree();
@@ -516,7 +519,7 @@ public final class RefusalTests {
 
     // Promises 8 to 11
 
-    private static void askingTakesItsRanges() {
+    private static void findTakesItsRanges() {
         says("What the loader 0 .. 4 finds for the name");
         for (int loader = 0; loader <= 4; loader++) {
             for (int name = 0; name < 12; name++) {
@@ -525,11 +528,17 @@ public final class RefusalTests {
         }
         refusesOutside("loader", 0, 4, (x, value) -> x.find(value, 0));
         refusesOutside("name", 0, 11, (x, value) -> x.find(1, value));
+    }
+
+    private static void loadTakesItsRange() {
         says("The class's number if it is loadable, else its code.");
         takes("class", 1, 2, LinkAudit::load);
         due("the sixteenth", full().load(16), 16);
         due("the seventeenth", full().load(17), REFUSED);
         due("no class yet", new LinkAudit().load(1), REFUSED);
+    }
+
+    private static void verdictTakesItsRange() {
         says("The VERDICT of the reference.");
         for (int out : outside(0, 11)) {
             due("reference " + out, full().verdict(out), REFUSED);
@@ -537,7 +546,10 @@ public final class RefusalTests {
         due("the first", full().verdict(0), 1);
         due("the last", full().verdict(11), 12);
         due("no reference yet", ready().verdict(0), REFUSED);
-        says("SELECTS for a class and a member. Not as said: REFUSED.");
+    }
+
+    private static void selectTakesItsRanges() {
+        says("SELECTS for a class and a member. (numbers out of range)");
         due("the last member", full().select(1, 40), 40);
         for (int out : outside(1, 16)) {
             due("class " + out, full().select(out, 40), REFUSED);
