@@ -52,6 +52,7 @@ public final class BoundaryTests {
         loadGoesInOrder();
         loadOfOneAlone();
         loadOfTheHighest();
+        loadOfTheHighestFromBelow();
         subclassOfItself();
         superinterfacesOfAllSorts();
         resolveGoesInOrder();
@@ -566,6 +567,50 @@ public final class BoundaryTests {
         x.mask(2, 11, true);
         due("no class 13", x.load(13), NO_CLASS);
         due("which is above no other now", x.load(16), 16);
+    }
+
+    /** Defines the class that stands at this place, from 0 at the top, in a row of sixteen over two loaders. */
+    private static int place(LinkAudit x, int place) {
+        if (place < 12) {
+            return x.define(1, place, OPEN, place == 0 ? NONE : place - 1, 0);
+        }
+        x.mask(2, place - 12, true);
+        return x.define(2, place - 12, OPEN, place == 12 ? 11 : place - 13, 0);
+    }
+
+    private static void loadOfTheHighestFromBelow() {
+        says("A class is a SUBCLASS of itself, of its super, and so on (defined in any order)");
+        LinkAudit x = new LinkAudit();
+        x.provide(2, 1);
+        for (int place = 15; place >= 0; place--) {
+            due("place " + place, place(x, place), 16 - place);
+            due("the lowest", x.load(1), place == 0 ? 1 : NO_CLASS);
+        }
+        x.field(16, 0, NUMBER, PROTECTED);
+        due("finds the topmost one's field", verdict(x, 1, LinkAudit.FIELD, 3), 1);
+        plain(x, 16, ABSTRACT);
+        due("gaps of all fifteen below", x.gaps(), 15);
+        // For each step the numbers rise in another order: some supers are loaded already, some are not.
+        for (int step = 1; step < 16; step += 2) {
+            LinkAudit y = new LinkAudit();
+            y.provide(2, 1);
+            for (int i = 0; i < 16; i++) {
+                place(y, i * step % 16);
+            }
+            for (int number = 1; number <= 16; number++) {
+                due("step " + step, y.load(number), number);
+            }
+        }
+        // The topmost eleven are loaded when the last one asks for them by way of the last but one.
+        LinkAudit z = new LinkAudit();
+        z.provide(2, 1);
+        for (int place = 0; place < 11; place++) {
+            place(z, place);
+        }
+        for (int place = 15; place >= 11; place--) {
+            place(z, place);
+        }
+        due("the lowest, by way of others", z.load(12), 12);
     }
 
     // Subclasses and superinterfaces

@@ -845,5 +845,21 @@ public final class RefusalTests {
             }
             due("the 512th call, " + i, last[i].on(x), want[i]);
         }
+        changesCountUpToThe512thCall();
+    }
+
+    /** A mask goes on and off: each time the plugin's class has another super, or none that is fit. */
+    private static void changesCountUpToThe512thCall() {
+        LinkAudit x = new LinkAudit();
+        x.define(0, 0, OPEN, NONE, 0);
+        x.define(1, 0, OPEN | LinkAudit.IS_FINAL, NONE, 0);
+        x.define(1, 1, OPEN, 0, 0);
+        x.reference(3, LinkAudit.NEW, 0, 0, 0);
+        for (int calls = 4; calls < 512; calls += 4) {
+            due("call " + (calls + 1), x.mask(1, 0, true), 0);
+            due("call " + (calls + 2), x.load(3), LinkAudit.INCOMPATIBLE);
+            due("call " + (calls + 3), x.mask(1, 0, false), 0);
+            due("call " + (calls + 4), calls % 8 == 0 ? x.load(3) : x.verdict(0), calls % 8 == 0 ? 3 : 1);
+        }
     }
 }
